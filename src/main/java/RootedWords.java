@@ -16,19 +16,21 @@ public final class RootedWords {
     private static final int OWN_WORDS = 2;
     private static final int LEAST_LENGTH = 3;
 
-    // A tag's kind is FREE, or FIRST_USED and as much more as the extent has pointers (254 at most): it fits below LENGTH.
+    // A tag is LENGTH_STEP times the length, and a kind: FREE, or FIRST_USED and as much more as there are
+    // pointers. These are 254 at most, so a kind is always below LENGTH_STEP.
     private static final int FREE = 0;
     private static final int FIRST_USED = 1;
-    private static final int LENGTH = 256;
+    private static final int LENGTH_STEP = 256;
 
+    // What the search from the roots marks an address with.
     private static final int UNUSED = 0;
     private static final int USED = 1;
     private static final int REACHED = 2;
 
     private final Disk disk = new Disk();
-    // These rows are made once and filled anew by each listing and by each search: a call makes no row of its own.
+    // Filled anew by each listing (firsts) and by each search (marks, by address, and found): no call makes a row.
     private final int[] firsts = new int[HEAP_WORDS / LEAST_LENGTH + 1];
-    private final int[] marks = new int[HEAP_WORDS + 1];
+    private final int[] marks = new int[HEAP_WORDS + 2];
     private final int[] found = new int[HEAP_WORDS + 1];
 
     public RootedWords() {
@@ -215,15 +217,15 @@ public final class RootedWords {
     }
 
     private static int tag(int length, int kind) {
-        return length * LENGTH + kind;
+        return length * LENGTH_STEP + kind;
     }
 
     private int lengthAt(int place) {
-        return disk.word(place) / LENGTH;
+        return disk.word(place) / LENGTH_STEP;
     }
 
     private int kindAt(int place) {
-        return disk.word(place) % LENGTH;
+        return disk.word(place) % LENGTH_STEP;
     }
 
     private boolean isFreeAt(int place) {

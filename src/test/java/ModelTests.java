@@ -64,7 +64,8 @@ final class ModelTests {
         int which = numbers.below(100);
         if (which < 30) {
             int words = someWords();
-            return twin.call(Twin.Kind.TAKE, words, numbers.below(4) == 0 ? words : numbers.below(Math.max(1, words) + 2), 0);
+            int pointers = numbers.below(4) == 0 ? words : numbers.below(Math.max(1, words) + 2);
+            return twin.call(Twin.Kind.TAKE, words, pointers, 0);
         }
         if (which < 42) {
             return twin.call(Twin.Kind.GIVE, someAddress(), 0, 0);

@@ -1,7 +1,9 @@
 /** An object and the model of it, given the same calls; each call's answers are held together. */
 final class Twin {
-    enum Kind { TAKE, GIVE, STORE, LOAD, SIZE, SET_ROOT, ROOT, FREE_WORDS, LARGEST_FREE, EXTENT, REACHED, ORDER, RECOVER,
-        WRITES, DOWN }
+    enum Kind {
+        TAKE, GIVE, STORE, LOAD, SIZE, SET_ROOT, ROOT, FREE_WORDS, LARGEST_FREE, EXTENT, REACHED, ORDER, RECOVER, WRITES,
+        DOWN
+    }
 
     private static final int MOST_CALLS = 512;
 
