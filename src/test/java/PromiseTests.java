@@ -27,6 +27,7 @@ final class PromiseTests {
         promise7();
         promise8();
         promises9And10();
+        promise10WithNumbersLikeTags();
         promise11();
         promise12();
         promise12LeadsNowhere();
@@ -315,6 +316,21 @@ final class PromiseTests {
         x.take(4, 0);
         Check.same("none is free: freeWords", x.freeWords(), 0);
         Check.same("none is free: largestFree", x.largestFree(), 0);
+    }
+
+    private static void promise10WithNumbersLikeTags() {
+        RootedWords x = new RootedWords();
+        x.take(1, 0);
+        x.give(2);
+        x.take(254, 0);
+        for (int i = 0; i < 254; i++) {
+            x.store(2, i, 250 * 256);
+        }
+        Check.same("content that looks like free extents: largestFree", x.largestFree(), 0);
+        Check.same("content that looks like free extents: freeWords", x.freeWords(), 0);
+        Check.refused("content that looks like free extents", NO_ROOM, () -> x.take(1, 0));
+        Check.refused("content that looks like free extents", NO_INDEX, () -> x.extent(1));
+        Check.same("give(2)", x.give(2), 2);
     }
 
     private static void promise11() {

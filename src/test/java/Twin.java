@@ -1,8 +1,8 @@
 /** An object and the model of it, given the same calls; each call's answers are held together. */
 final class Twin {
     enum Kind {
-        TAKE, GIVE, STORE, LOAD, SIZE, SET_ROOT, ROOT, FREE_WORDS, LARGEST_FREE, EXTENT, REACHED, ORDER, RECOVER, WRITES,
-        DOWN
+        TAKE, GIVE, STORE, LOAD, SIZE, SET_ROOT, ROOT, FREE_WORDS, LARGEST_FREE, EXTENT, REACHED, ORDER, RECOVER,
+        WRITES, DOWN
     }
 
     private static final int MOST_CALLS = 512;
