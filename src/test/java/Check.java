@@ -6,8 +6,22 @@ final class Check {
 
     private static int passed = 0;
     private static int failed = 0;
+    private static String about = "";
 
     private Check() {
+    }
+
+    /** Runs the test of one sentence of the document; what it complains of is told with its promise and its words. */
+    static void sentence(String promise, String words, Runnable test) {
+        about = promise + ", \"" + words + "\": ";
+        int before = passed + failed;
+        try {
+            test.run();
+        } catch (RuntimeException e) {
+            note(false, "the test threw " + e);
+        }
+        note(passed + failed > before, "the test checks nothing");
+        about = "";
     }
 
     static void same(String what, long got, long due) {
@@ -52,7 +66,7 @@ final class Check {
             passed++;
         } else {
             failed++;
-            System.out.println("  " + complaint);
+            System.out.println("  " + about + complaint);
         }
     }
 }

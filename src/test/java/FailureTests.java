@@ -2,11 +2,6 @@
 final class FailureTests {
     private static final Class<IllegalStateException> DOWN = IllegalStateException.class;
 
-    /** A call that the power cuts off. */
-    interface Cut {
-        long on(RootedWords heap);
-    }
-
     private FailureTests() {
     }
 
@@ -50,7 +45,7 @@ final class FailureTests {
      * Lets the power fail in place of each of a call's writes, and recovers. Once the note of k words is valid, behind
      * `before` writes and 2 * k + 1 more, the call counts as done.
      */
-    private static void cutEverywhere(String name, Cut call, int before, int k, int sweepUndone, int sweepDone,
+    private static void cutEverywhere(String name, Heaps.Call call, int before, int k, int sweepUndone, int sweepDone,
             String done) {
         int all = before + 3 * k + 2;
         for (int n = 0; n < all; n++) {

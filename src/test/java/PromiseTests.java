@@ -86,31 +86,18 @@ final class PromiseTests {
         Check.refused("nothing is left", NO_ROOM, () -> x.take(1, 0));
     }
 
-    /** Used: 2 (3 words), free: 7 (5), used: 14 (1), free: 17 (4), used: 23 (2), free: 27 (229). */
-    private static RootedWords withGaps() {
-        RootedWords x = new RootedWords();
-        x.take(3, 2);
-        x.take(5, 0);
-        x.take(1, 1);
-        x.take(4, 0);
-        x.take(2, 0);
-        x.give(7);
-        x.give(17);
-        return x;
-    }
-
     private static void promise2TakesTheLowest() {
-        Check.same("withGaps", Picture.of(withGaps()), "2/2[0,0,0] -7 14/1[0] -17 23/0[0,0] -27 "
+        Check.same("withGaps", Picture.of(Heaps.withGaps()), "2/2[0,0,0] -7 14/1[0] -17 23/0[0,0] -27 "
                 + "| 0 0 0 0 0 0 0 0 | free " + (5 + 4 + 229) + " most 229 reached 0");
-        Check.same("4 words fit in the gap of 5, not only in that of 4", withGaps().take(4, 0), 7);
-        Check.same("5 words", withGaps().take(5, 0), 7);
-        Check.same("6 words", withGaps().take(6, 0), 27);
-        RootedWords x = withGaps();
+        Check.same("4 words fit in the gap of 5, not only in that of 4", Heaps.withGaps().take(4, 0), 7);
+        Check.same("5 words", Heaps.withGaps().take(5, 0), 7);
+        Check.same("6 words", Heaps.withGaps().take(6, 0), 27);
+        RootedWords x = Heaps.withGaps();
         Check.same("3 words in a gap of 5", x.take(3, 1), 7);
         Check.same("it keeps two words more", x.size(7, 0), 5);
         Check.same("they are no pointers", x.size(7, 1), 1);
         Check.same("4 words in a gap of 4", x.take(4, 0), 17);
-        RootedWords y = withGaps();
+        RootedWords y = Heaps.withGaps();
         Check.same("2 words in a gap of 5", y.take(2, 0), 7);
         Check.same("it has just 2 words", y.size(7, 0), 2);
         Check.same("the rest is free", y.extent(2), -11);
@@ -147,7 +134,7 @@ final class PromiseTests {
     }
 
     private static void promise3() {
-        RootedWords x = withGaps();
+        RootedWords x = Heaps.withGaps();
         int before = x.writes();
         Check.same("one with both neighbours", x.give(14), 7);
         Check.same("a change of 2", x.writes() - before, 8);
@@ -169,7 +156,7 @@ final class PromiseTests {
     }
 
     private static void promise3Refuses() {
-        RootedWords x = withGaps();
+        RootedWords x = Heaps.withGaps();
         int[] wrong = {0, 1, 3, 4, 5, 6, 7, 8, 13, 15, 17, 27, 254, 255, 256, 257, 1000, -1, -2, -14,
             Integer.MIN_VALUE, Integer.MAX_VALUE};
         for (int address : wrong) {
@@ -180,7 +167,7 @@ final class PromiseTests {
     }
 
     private static void promise4() {
-        RootedWords x = withGaps();
+        RootedWords x = Heaps.withGaps();
         int before = x.writes();
         Check.same("store(2, 0, 14)", x.store(2, 0, 14), 0);
         Check.same("store(2, 0, 2), itself", x.store(2, 0, 2), 14);
@@ -194,7 +181,7 @@ final class PromiseTests {
     }
 
     private static void promise4Refuses() {
-        RootedWords x = withGaps();
+        RootedWords x = Heaps.withGaps();
         int[] noPointers = {7, 17, 27, 1, 3, 15, 256, 257, -2, -14, Integer.MAX_VALUE, Integer.MIN_VALUE};
         for (int w : noPointers) {
             Check.refused("store(2, 0, " + w + ")", WRONG, () -> x.store(2, 0, w));
@@ -218,7 +205,7 @@ final class PromiseTests {
     }
 
     private static void promise5() {
-        RootedWords x = withGaps();
+        RootedWords x = Heaps.withGaps();
         x.store(2, 0, 14);
         x.store(2, 2, -77);
         int before = x.writes();
@@ -237,7 +224,7 @@ final class PromiseTests {
     }
 
     private static void promise6() {
-        RootedWords x = withGaps();
+        RootedWords x = Heaps.withGaps();
         int[] others = {1, 2, -1, Integer.MIN_VALUE, Integer.MAX_VALUE};
         for (int what : others) {
             Check.same("size(2, " + what + ")", x.size(2, what), 2);
@@ -253,7 +240,7 @@ final class PromiseTests {
     }
 
     private static void promise7() {
-        RootedWords x = withGaps();
+        RootedWords x = Heaps.withGaps();
         int before = x.writes();
         Check.same("setRoot(0, 2)", x.setRoot(0, 2), 0);
         Check.same("setRoot(7, 14)", x.setRoot(7, 14), 0);
@@ -279,7 +266,7 @@ final class PromiseTests {
     }
 
     private static void promise8() {
-        RootedWords x = withGaps();
+        RootedWords x = Heaps.withGaps();
         x.setRoot(3, 14);
         int before = x.writes();
         Check.same("root(3)", x.root(3), 14);
@@ -303,7 +290,7 @@ final class PromiseTests {
     }
 
     private static void promises9And10() {
-        RootedWords x = withGaps();
+        RootedWords x = Heaps.withGaps();
         int before = x.writes();
         Check.same("freeWords", x.freeWords(), 5 + 4 + 229);
         Check.same("largestFree", x.largestFree(), 229);
@@ -334,7 +321,7 @@ final class PromiseTests {
     }
 
     private static void promise11() {
-        RootedWords x = withGaps();
+        RootedWords x = Heaps.withGaps();
         int[] due = {2, -7, 14, -17, 23, -27};
         for (int i = 0; i < due.length; i++) {
             Check.same("extent(" + i + ")", x.extent(i), due[i]);
@@ -388,7 +375,7 @@ final class PromiseTests {
     }
 
     private static void promise12LeadsNowhere() {
-        RootedWords x = withGaps();
+        RootedWords x = Heaps.withGaps();
         x.setRoot(0, 2);
         x.store(2, 2, 14);
         Check.same("a word behind the pointers", x.reached(), 1);
@@ -455,7 +442,7 @@ final class PromiseTests {
     }
 
     private static void promise14WhenUp() {
-        RootedWords x = withGaps();
+        RootedWords x = Heaps.withGaps();
         int before = x.writes();
         Check.same("recover() when the heap is up", x.recover(), RootedWords.NONE);
         Check.same("no writes", x.writes() - before, 0);
@@ -494,7 +481,7 @@ final class PromiseTests {
     }
 
     private static void refusalsComeInOrder() {
-        RootedWords x = withGaps();
+        RootedWords x = Heaps.withGaps();
         Check.refused("store: the address first", NO_ADDRESS, () -> x.store(3, 99, 3));
         Check.refused("store: then the word", NO_INDEX, () -> x.store(2, -1, 3));
         Check.refused("store: then the pointer", WRONG, () -> x.store(2, 1, 3));
@@ -510,7 +497,7 @@ final class PromiseTests {
     }
 
     private static void whatIsRefusedChangesNothing() {
-        RootedWords x = withGaps();
+        RootedWords x = Heaps.withGaps();
         x.setRoot(2, 14);
         String before = Picture.of(x);
         int writes = x.writes();
@@ -527,7 +514,7 @@ final class PromiseTests {
     }
 
     private static void downRefusesAll() {
-        RootedWords x = withGaps();
+        RootedWords x = Heaps.withGaps();
         x.order(0);
         Check.refused("the power fails", DOWN, () -> x.store(2, 0, 0));
         int writes = x.writes();
